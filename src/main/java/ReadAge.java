@@ -153,7 +153,8 @@ public final class ReadAge {
         if (!passes(found == FINE ? chances.greatness(chances.n, ahead) : found)) {
             return NONE;
         }
-        return odds.tellAge(t, k);
+        odds.ask(t, k);
+        return odds.tellAge();
     }
 
     public int choose(int most, int t, int ahead, int k, int top, int bottom, int perCopy, int perWait, int perAsk) {
@@ -164,7 +165,7 @@ public final class ReadAge {
         if (!passes(can ? chances.greatness(most, ahead) : WRONG)) {
             return NONE;
         }
-        odds.prepare(t, k, 1, most);
+        odds.ask(t, k);
         int choice = odds.cheapest(most, top, bottom, perCopy, perWait, perAsk);
         passes(choice == NONE ? NO_SUCH : FINE);
         return choice;
@@ -347,7 +348,7 @@ public final class ReadAge {
     }
 
     private boolean isCopy(int copy) {
-        return fits(copy, 0, (running ? run.copies.many : COPIES) - 1);
+        return running ? run.copies.has(copy) : fits(copy, 0, COPIES - 1);
     }
 
     private int copyLack(int copy, boolean shouldBeUp) {
@@ -479,7 +480,7 @@ public final class ReadAge {
         }
 
         /** The weight of the letters of a WRITE that need more ticks than these. */
-        long above(long ticks) {
+        long above(int ticks) {
             long weight = 0;
             for (int delay = DELAYS - 1; delay > ticks && delay >= 0; delay--) {
                 weight += weights[delay];
@@ -570,12 +571,15 @@ public final class ReadAge {
         private final long[] ends = new long[Chances.SUMS];
         private final long[] answers = new long[Chances.SUMS];
         private final long[] late = new long[LATE];
-        private final long[] stale = new long[LATE * SIDE * SIDE];
+        private final long[] stale = new long[LATE * SIDE];
         private final long[] sooner = new long[SIDE];
         private final long[] now = new long[SIDE];
         private final long[] others = new long[SIDE];
         private final long[] later = new long[SIDE];
-        private int aged;
+        private int behind = 0;
+        private int aged = 0;
+        /** The N that the rows are made for, 0 if for none. */
+        private int ready = 0;
 
         Odds(Chances chances) {
             this.chances = chances;
@@ -590,49 +594,52 @@ public final class ReadAge {
             return chances.tellFraction(ways, Chances.power(all, chances.n));
         }
 
-        int tellAge(int t, int k) {
-            prepare(t, k, chances.n, chances.n);
-            long ways = waysAbove(chances.n, chances.w, chances.r);
-            return chances.tellFraction(ways, Chances.power(chances.ofCopy(k), chances.n));
+        /** From here on READS behind t ticks are asked, for an AGE above k. */
+        void ask(int t, int k) {
+            behind = t;
+            aged = k;
+            ready = 0;
         }
 
-        /** Makes the rows ready that waysAbove() needs for READS behind t ticks of an AGE above k. */
-        void prepare(int t, int k, int fewest, int most) {
-            aged = k;
+        int tellAge() {
+            long ways = waysAbove(chances.n, chances.w, chances.r);
+            return chances.tellFraction(ways, Chances.power(chances.ofCopy(aged), chances.n));
+        }
+
+        private void prepare(int n) {
             chances.spread(0, 1, ends);
             chances.spread(2, 3, answers);
             for (int ticks = 0; ticks < LATE; ticks++) {
                 late[ticks] = 1;
-                for (int older = 0; older <= k; older++) {
-                    late[ticks] *= chances.above(t + ticks + (long) older * chances.gap);
+                for (int older = 0; older <= aged; older++) {
+                    late[ticks] *= chances.above(behind + ticks + older * chances.gap);
                 }
-            }
-            for (int i = 0; i < stale.length; i++) {
-                stale[i] = 0;
             }
             for (int end = 0; end < LATE; end++) {
-                addStale(end, fewest, most);
+                prepareEnd(end, n);
             }
+            ready = n;
         }
 
-        private void addStale(int end, int fewest, int most) {
-            long before = 0;
-            long behind = chances.sum(2) * chances.sum(3);
+        private void prepareEnd(int end, int n) {
+            long staleBefore = 0;
+            long anyLater = chances.sum(2) * chances.sum(3);
+            for (int r = 1; r < n; r++) {
+                stale[place(end, r)] = 0;
+            }
             for (int tick = 0; tick < Chances.SUMS; tick++) {
                 long staleNow = staleAnswers(end, tick);
-                behind -= answers[tick];
+                anyLater -= answers[tick];
                 if (staleNow != 0) {
-                    fillPowers(before, sooner);
+                    fillPowers(staleBefore, sooner);
                     fillPowers(staleNow, now);
                     fillPowers(answers[tick], others);
-                    fillPowers(behind, later);
-                    for (int n = fewest; n <= most && n < SIDE; n++) {
-                        for (int r = 1; r < n; r++) {
-                            stale[place(end, n, r)] += staleReads(n, r);
-                        }
+                    fillPowers(anyLater, later);
+                    for (int r = 1; r < n; r++) {
+                        stale[place(end, r)] += staleReads(n, r);
                     }
                 }
-                before += staleNow;
+                staleBefore += staleNow;
             }
         }
 
@@ -662,15 +669,18 @@ public final class ReadAge {
             return ways;
         }
 
-        /** Ways, of all, in which the AGE of a READ is above the k that the rows are made for. */
+        /** Ways, of all, in which the AGE of a READ is above the k that is asked. */
         long waysAbove(int n, int w, int r) {
             if (w > n - r) {
                 return 0;
             }
+            if (ready != n) {
+                prepare(n);
+            }
             long all = chances.sum(0) * chances.sum(1);
             long ways = 0;
             for (int end = 0; end < LATE; end++) {
-                long missed = stale[place(end, n, r)];
+                long missed = stale[place(end, r)];
                 if (missed != 0) {
                     ways += missed * endsAt(n - r, w, end, all);
                 }
@@ -705,7 +715,7 @@ public final class ReadAge {
             long allLow = (all & mask) * top;
             long waysHigh = (ways >>> 31) * bottom + (waysLow >>> 31);
             long allHigh = (all >>> 31) * top + (allLow >>> 31);
-            return waysHigh < allHigh || waysHigh == allHigh && (waysLow & mask) <= (allLow & mask);
+            return waysHigh < allHigh || (waysHigh == allHigh && (waysLow & mask) <= (allLow & mask));
         }
 
         /** Ways in which the needed-th of so many COPIES ends at just this tick, by the row of ends. */
@@ -730,8 +740,8 @@ public final class ReadAge {
             return of >= 0 && of < SIDE && many >= 0 && many < SIDE ? PICKS[of * SIDE + many] : 0;
         }
 
-        private static int place(int end, int n, int r) {
-            return (end * SIDE + n) * SIDE + r;
+        private static int place(int end, int r) {
+            return end * SIDE + r;
         }
 
         private static void fillPowers(long base, long[] row) {
@@ -759,6 +769,10 @@ public final class ReadAge {
                 ups[copy] = true;
                 forget(copy);
             }
+        }
+
+        boolean has(int copy) {
+            return copy >= 0 && copy < many;
         }
 
         private void forget(int keeper) {
@@ -893,21 +907,25 @@ public final class ReadAge {
         private void link(int letter) {
             int before = NONE;
             int behind = head;
-            for (int i = 0; i < MOST && behind != NONE && ticks[behind] <= ticks[letter]; i++) {
+            for (int i = 0; i < MOST && isLetter(behind) && ticks[behind] <= ticks[letter]; i++) {
                 before = behind;
                 behind = nexts[behind];
             }
             nexts[letter] = behind;
-            if (before == NONE) {
-                head = letter;
-            } else {
+            if (isLetter(before)) {
                 nexts[before] = letter;
+            } else {
+                head = letter;
             }
+        }
+
+        private static boolean isLetter(int letter) {
+            return letter >= 0 && letter < MOST;
         }
 
         /** Takes out the next LETTER that is due by a tick, or NONE. */
         int takeDue(int tick) {
-            if (head == NONE || ticks[head] > tick) {
+            if (!isLetter(head) || ticks[head] > tick) {
                 return NONE;
             }
             int letter = head;
@@ -935,10 +953,17 @@ public final class ReadAge {
         }
 
         boolean isDone(int write) {
-            return write >= 1 && write <= many && doneAt[write - 1] != NONE;
+            return has(write) && doneAt[write - 1] != NONE;
+        }
+
+        private boolean has(int write) {
+            return write >= 1 && write <= many;
         }
 
         void hear(int write, int needed, int tick) {
+            if (!has(write)) {
+                return;
+            }
             int place = write - 1;
             words[place]++;
             if (words[place] == needed) {
@@ -984,12 +1009,16 @@ public final class ReadAge {
         }
 
         boolean isDone(int read) {
-            return read >= 0 && read < many && doneAt[read] != NONE;
+            return has(read) && doneAt[read] != NONE;
+        }
+
+        private boolean has(int read) {
+            return read >= 0 && read < many;
         }
 
         /** An answer comes: whether it is the last one that the READ needs. */
         boolean hear(int read, int copy, int version, int needed) {
-            if (isDone(read)) {
+            if (!has(read) || doneAt[read] != NONE) {
                 return false;
             }
             heard[read * COPIES + copy] = version;
@@ -1059,6 +1088,9 @@ public final class ReadAge {
             int number = post.numbers[letter];
             int copy = post.copies[letter];
             int extra = post.extras[letter];
+            if (!copies.has(copy)) {
+                return;
+            }
             switch (post.kinds[letter]) {
                 case Post.WRITE:
                     if (copies.take(copy, number)) {
