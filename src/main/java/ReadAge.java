@@ -689,7 +689,11 @@ public final class ReadAge {
             return ways * Chances.power(chances.sum(0), aged * (n - r));
         }
 
-        /** The code of the CHOICE, or NONE; a lesser code has the lesser N, then w, then r. */
+        /**
+         * The code of the CHOICE, or NONE. Of like prices the first one found stays: it has the least N,
+         * then w, then r. With prices of 0 or more that is always 111, as one COPY misses nothing and
+         * costs least; so the rows are made ready only where a price asks for them.
+         */
         int cheapest(int most, int top, int bottom, int perCopy, int perWait, int perAsk) {
             int best = NONE;
             int least = 0;

@@ -84,12 +84,15 @@ public final class ChancesTest {
         Due due = it.due.in("promise 12");
         ReadAge judge = it.judge;
         judge.numbers(2, 1, 1);
-        it.table(0, 1, 1, 0, 0, 0, 0, 0, 1);
-        // COPY 0 is read as the WRITE comes to COPY 1, at 0 (two ways of 9) or 1 (one way), and has not
+        it.table(0, 1, 1, 1);
+        // COPY 0 is read as the WRITE comes to COPY 1, at 0 (its letter at 1 or 2) or 1 (at 2), and has not
         // the older one either, if its letter needs more than that and GAP. GAP is 1 at first.
-        due.fraction("odds(0, 1, 1) at first", judge.odds(0, 1, 1), (2 * 1 + 1 * 1) / 3, 27 / 3);
+        due.fraction("odds(0, 1, 1) at first", judge.odds(0, 1, 1), 2 * 1 + 1 * 0, 27);
         due.fine("gap(0)", judge.gap(0));
         due.fraction("odds(0, 1, 1)", judge.odds(0, 1, 1), 2 * 2 + 1 * 1, 27);
+        due.fine("gap(2)", judge.gap(2));
+        due.fraction("odds(0, 1, 1)", judge.odds(0, 1, 1), 0, 1);
+        it.table(0, 1, 1, 0, 0, 0, 0, 0, 1);
         due.fine("gap(6)", judge.gap(6));
         due.fraction("odds(0, 1, 1)", judge.odds(0, 1, 1), 2 * 1 + 1 * 0, 27);
         due.refused("gap(101)", judge.gap(101), 1);
@@ -251,12 +254,36 @@ public final class ChancesTest {
         ChancesTest it = new ChancesTest();
         Due due = it.due.in("GREAT");
         ReadAge judge = it.judge;
-        // N 2: (S0 ^ (1 + 3) S1 S2 S3) is at most 2 to the 21: never. N 5, K 3: 62 is no multiple of 5.
-        // S0 8, S1 1, S2 1, S3 1, N 5, K 3: 2 to the 60.
+        // The first weights are 1: 8 ^ 4 and 8 ^ 3 alone, to the power 5, are below.
+        judge.numbers(5, 1, 1);
+        it.table(0, 8);
+        due.fraction("2 to the 60", judge.odds(0, 3, 3), 0, 1);
+        ChancesTest another = new ChancesTest();
+        for (int table = 1; table < 4; table++) {
+            another.table(table, 8);
+        }
+        another.judge.numbers(5, 1, 1);
+        another.due.fraction("2 to the 45", another.judge.odds(0, 3, 3), 0, 1);
+        due.is("wrong ones", another.due.wrong(), 0);
+        // N 3, K 3: 8 ^ 4 by 8 8 6 is 1,572,864, to the power 3 below 2 to the 62; by 8 8 7 it is
+        // 1,835,008, to the power 3 above 2 to the 62, though below 2 to the 63.
+        judge.numbers(3, 1, 1);
+        it.table(0, 8);
+        it.table(1, 8);
+        it.table(2, 8);
+        it.table(3, 6);
+        due.fraction("1,572,864 to the 3", judge.odds(0, 3, 3), 0, 1);
+        due.fine("choose", judge.choose(3, 0, 3, 3, 0, 1, 0, 0, 0), 111);
+        it.table(3, 7);
+        due.refused("1,835,008 to the 3", judge.odds(0, 3, 3), 9);
+        due.refused("choose", judge.choose(3, 0, 3, 3, 0, 1, 0, 0, 0), 9);
+        it.table(1, 1);
+        it.table(2, 1);
+        it.table(3, 1);
+        // 8 ^ 4 to the power 5 is 2 to the 60, by 2 ^ 5 GREAT.
         judge.numbers(5, 1, 1);
         it.table(0, 4, 4);
         due.is("odds(0, 3, 3) is not refused", judge.odds(0, 3, 3) >= 0, true);
-        // By 32 ^ (1 / 5) = 2 to the 65: GREAT. By 7 / 8 ^ 5: S0 7: 2401 2 ^ 5 and so on.
         it.table(1, 2);
         due.refused("2 to the 65", judge.odds(0, 3, 3), 9);
         // 7 ^ 4 = 2401; 2401 * 2 = 4802; 4802 ^ 5 is 2.55e18, below 4.61e18; 7203 ^ 5 is above.
@@ -448,7 +475,7 @@ public final class ChancesTest {
         Due due = new Due().in("the search");
         Field field = ReadAge.class.getDeclaredField("odds");
         field.setAccessible(true);
-        for (int round = 0; round < 300; round++) {
+        for (int round = 0; round < 600; round++) {
             ChancesTest it = new ChancesTest();
             Object odds = field.get(it.judge);
             Method ask = odds.getClass().getDeclaredMethod("ask", int.class, int.class);
@@ -456,15 +483,21 @@ public final class ChancesTest {
                     int.class, int.class, int.class);
             ask.setAccessible(true);
             cheapest.setAccessible(true);
-            it.table(0, 1 + random.nextInt(4), random.nextInt(3), random.nextInt(2));
-            it.table(2, 1 + random.nextInt(4), random.nextInt(3));
-            it.table(3, 1, random.nextInt(2));
+            // A common factor of the weights makes the numbers of ways great and leaves the chances.
+            int factor = round % 2 == 0 ? 1 : 4;
+            it.table(0, 1, random.nextInt(8 / factor));
+            it.table(1, factor * 2);
+            it.table(2, factor, factor * random.nextInt(2));
+            it.table(3, factor, factor * random.nextInt(2));
+            if (random.nextInt(4) == 0) {
+                it.table(0, factor, factor);
+            }
             int most = 1 + random.nextInt(5);
             int t = random.nextInt(2);
             int bottom = round % 3 == 0 ? 1000000 : 1 + random.nextInt(1000);
             int top = random.nextInt(4) == 0 ? 0 : random.nextInt(bottom + 1);
             int[] prices = {random.nextInt(7) - 3, random.nextInt(7) - 3, random.nextInt(7) - 3};
-            if (round % 4 == 0) {
+            if (round % 8 < 4) {
                 // Just as great as the chance of one of them: that one keeps the promise, one less does not.
                 it.judge.numbers(most, 1, 1);
                 it.judge.odds(t, 0, 0);
@@ -495,12 +528,40 @@ public final class ChancesTest {
         return due;
     }
 
+    /** The search's comparison, on numbers up to the greatest, alike ones and neighbours among them. */
+    private static Due comparison() throws ReflectiveOperationException {
+        Random random = new Random(7);
+        Due due = new Due().in("the comparison");
+        Class<?> odds = ReadAge.class.getDeclaredField("odds").getType();
+        Method isAtMost = odds.getDeclaredMethod("isAtMost", long.class, long.class, long.class, long.class);
+        isAtMost.setAccessible(true);
+        for (int round = 0; round < 20000; round++) {
+            long bottom = 1 + random.nextInt(random.nextBoolean() ? 1000000 : 20);
+            long top = random.nextInt((int) bottom + 1);
+            long scale = (random.nextLong() >>> 2 + random.nextInt(40)) / bottom;
+            long all = scale * bottom;
+            long ways = scale * top + random.nextInt(3) - 1;
+            if (random.nextInt(4) == 0) {
+                ways = all == 0 ? 0 : (random.nextLong() >>> 2) % all;
+            }
+            if (all < 1 || ways < 0 || ways > all) {
+                continue;
+            }
+            boolean want = BigInteger.valueOf(ways).multiply(BigInteger.valueOf(bottom))
+                    .compareTo(BigInteger.valueOf(all).multiply(BigInteger.valueOf(top))) <= 0;
+            due.is(ways + " by " + all + " at most " + top + " by " + bottom,
+                    (Boolean) isAtMost.invoke(null, ways, all, top, bottom), want);
+        }
+        return due;
+    }
+
     private void fraction(String call, int got, long ways, long all) {
         long divisor = BigInteger.valueOf(ways).gcd(BigInteger.valueOf(all)).longValueExact();
         due.fraction(call, got, ways / divisor, all / divisor);
     }
 
     public static void main(String[] args) throws ReflectiveOperationException {
-        Due.end(fresh(), numbers(), gap(), table(), takes(), odds(), great(), choose(), outcomes(), search());
+        Due.end(fresh(), numbers(), gap(), table(), takes(), odds(), great(), choose(), outcomes(), search(),
+                comparison());
     }
 }

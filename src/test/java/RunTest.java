@@ -80,6 +80,7 @@ public final class RunTest {
         due.refused("go", judge.go(10001), 1);
         due.refused("go", judge.go(-1), 1);
         due.refused("down", judge.down(4, true), 4);
+        due.refused("down", judge.down(0, true), 4);
         due.refused("down", judge.down(5, true), 1);
         due.refused("down", judge.down(-1, true), 1);
         due.refused("up", judge.up(4), 4);
@@ -162,6 +163,53 @@ public final class RunTest {
         due.fine("of(1, 1)", judge.of(1, 1), 1);
         it.go(50, 50);
         it.versions(0, 0);
+        return due;
+    }
+
+    /** Nothing of an older RUN is counted in the next one. */
+    private static Due anew() {
+        RunTest it = new RunTest("a RUN anew").run(2, 1, 1);
+        Due due = it.due;
+        ReadAge judge = it.judge;
+        it.write(1, 0, 90, 0, 0);
+        it.go(1, 1);
+        judge.keep(2, true);
+        it.read(0, 2, 0, 9, 0, 0);
+        it.read(1, 2, 9, 0, 0, 0);
+        judge.down(1, false);
+        it.write(2, 0, 0, 0, 0);
+        judge.down(0, false);
+        it.write(3, 0, 0, 0, 0);
+        it.tells(1, 3, 2, 3, 2, 1, 1);
+        it.kept(1, 0);
+        due.fine("begin", judge.begin());
+        it.tells(0, 0, 0, 0, 0, 0, 0);
+        it.kept(0, 0);
+        it.versions(0, 0);
+        // What COPY 0 answered in an older RUN mends nothing: its answer is not among the r.
+        it.run(2, 1, 1);
+        it.read(0, 0, 0, 9, 0, 0);
+        it.run(2, 1, 1);
+        judge.mending(true);
+        it.write(1, 90, 0, 0, 0);
+        it.read(0, 0, 9, 0, 0, 0);
+        it.go(2, 2);
+        it.versions(0, 1);
+        // Each RUN has room for all its LETTERS, whatever came in older ones.
+        judge.numbers(5, 5, 5);
+        it.delays(0, 9, 9, 9, 9, 9, 1, 1, 1, 1, 1);
+        for (int run = 0; run < 3; run++) {
+            due.fine("begin", judge.begin());
+            for (int write = 1; write <= 40; write++) {
+                due.fine("writes", judge.writes(0), write);
+            }
+            due.fine("tell(3)", judge.tell(3), 200);
+            it.go(9, 9);
+            due.fine("tell(3)", judge.tell(3), 200);
+            it.go(1, 10);
+            due.fine("done(40)", judge.done(40), 10);
+            it.versions(40, 40, 40, 40, 40);
+        }
         return due;
     }
 
@@ -302,6 +350,8 @@ public final class RunTest {
         judge.sheet(2, 3, 6);
         judge.write(2, 1, 1L << 32);
         due.refused("a delay", judge.writes(2), 1);
+        it.delays(0, -1, 0, 0, 0, 0, 0);
+        due.refused("a delay", judge.writes(0), 1);
         due.fine("tell(1)", judge.tell(1), 0);
         // Numbers beyond the first 2 N may be any.
         it.write(1, 1000, 0, 1, 1000, 2, 0, -1, 1001);
@@ -543,6 +593,27 @@ public final class RunTest {
         due.fine("tell(3)", judge.tell(3), 0);
         due.fine("up(1)", judge.up(1), 0);
         it.versions(0, 2, 2);
+        // What a COPY kept for COPY 0 as it went DOWN it gives as it comes UP, if COPY 0 is UP then.
+        it.run(3, 1, 1);
+        judge.down(0, false);
+        it.write(1, 0, 0, 90, 0, 0, 0);
+        it.kept(0, 1, 0);
+        judge.down(1, false);
+        due.fine("up(0)", judge.up(0), 0);
+        it.versions(0, 1, 0);
+        due.fine("up(1)", judge.up(1), 1);
+        it.versions(1, 1, 0);
+        it.kept(0, 0, 0);
+        // What was LOST is not given.
+        judge.down(0, false);
+        it.write(2, 0, 90, 90, 0, 0, 0);
+        it.kept(0, 1, 0);
+        judge.down(1, true);
+        due.fine("tell(4)", judge.tell(4), 1);
+        it.kept(0, 0, 0);
+        due.fine("up(1)", judge.up(1), 0);
+        due.fine("up(0)", judge.up(0), 0);
+        it.versions(1, 0, 0);
         // A lesser VERSION that comes later does not take the place of the greater one that is kept.
         it.run(2, 1, 1);
         it.write(1, 0, 5, 0, 0);
@@ -661,7 +732,7 @@ public final class RunTest {
     }
 
     public static void main(String[] args) {
-        Due.end(withoutRun(), begin(), mending(), mendingLetters(), keep(), writes(), order(), reads(), answers(),
+        Due.end(withoutRun(), begin(), anew(), mending(), mendingLetters(), keep(), writes(), order(), reads(), answers(),
                 go(), downAndUp(), handed(), sweep(), looks());
     }
 }
