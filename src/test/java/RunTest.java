@@ -643,6 +643,54 @@ public final class RunTest {
         return due;
     }
 
+    /** As many COPIES as can be. */
+    private static Due five() {
+        RunTest it = new RunTest("five COPIES").run(5, 1, 5);
+        Due due = it.due;
+        ReadAge judge = it.judge;
+        judge.mending(true);
+        it.write(1, 90, 90, 90, 90, 0, 0, 0, 0, 0, 0);
+        it.read(0, 0, 0, 0, 0, 0, 0, 0, 0, 0, 0, 0);
+        it.go(1, 1);
+        it.versions(1, 1, 1, 1, 1);
+        for (int copy = 0; copy < 4; copy++) {
+            due.fine("down", judge.down(copy, copy == 1));
+        }
+        it.write(2, 0, 0, 0, 0, 0, 0, 0, 0, 0, 0);
+        it.kept(0, 0, 0, 0, 4);
+        it.versions(1, 0, 1, 1, 2);
+        due.fine("up", judge.up(0), 1);
+        due.fine("down", judge.down(4, false));
+        due.fine("up", judge.up(1), 0);
+        due.fine("up", judge.up(2), 0);
+        due.fine("up", judge.up(4), 2);
+        it.kept(0, 0, 0, 0, 1);
+        it.versions(2, 2, 2, 1, 2);
+        due.fine("down", judge.down(4, true));
+        due.fine("tell(4)", judge.tell(4), 1);
+        due.fine("sweep", judge.sweep(0, 1), 0);
+        due.refused("sweep", judge.sweep(0, 5), 1);
+        due.refused("of(5, 0)", judge.of(5, 0), 1);
+        // As many LETTERS as a RUN can have: each READ mends the four COPIES that its WRITE's come late to.
+        it.run(5, 5, 5);
+        judge.mending(true);
+        it.delays(0, 0, 1000, 1000, 1000, 1000, 0, 0, 0, 0, 0);
+        it.delays(1, 0, 0, 0, 0, 0, 0, 0, 0, 0, 0);
+        for (int act = 0; act < 40; act++) {
+            due.fine("writes", judge.writes(0), act + 1);
+            due.fine("reads", judge.reads(1, 0), act);
+            due.fine("tell(3)", judge.tell(3), 4 * (act + 2));
+            it.go(1, act + 1);
+        }
+        it.versions(40, 40, 40, 40, 40);
+        it.go(1000, 1040);
+        it.tells(1040, 40, 40, 0, 0, 0, 0);
+        for (int act = 0; act < 40; act++) {
+            due.fine("done", judge.done(act + 1), 1000 + act);
+        }
+        return due;
+    }
+
     private static Due sweep() {
         RunTest it = new RunTest("promise 25").run(3, 1, 1);
         Due due = it.due;
@@ -733,6 +781,6 @@ public final class RunTest {
 
     public static void main(String[] args) {
         Due.end(withoutRun(), begin(), anew(), mending(), mendingLetters(), keep(), writes(), order(), reads(), answers(),
-                go(), downAndUp(), handed(), sweep(), looks());
+                go(), downAndUp(), handed(), five(), sweep(), looks());
     }
 }

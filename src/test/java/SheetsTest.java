@@ -142,6 +142,18 @@ public final class SheetsTest {
         }
         it.row(1, 45, 46, 47, 0);
         it.row(0, 301, 302, 303, 302, 47);
+        // A whole SHEET, beside one with greater numbers: those stay.
+        for (int sheet = 0; sheet < 4; sheet++) {
+            judge.sheet(sheet, sheet == 3 ? 0 : sheet, 16);
+            judge.write(sheet, 0, 100000);
+        }
+        for (int to = 0; to < 4; to++) {
+            due.fine("copy of all", judge.copy(2, 0, to, 0, 16));
+        }
+        it.row(0, (byte) 100000, 0);
+        it.row(1, (short) 100000, 0);
+        it.row(2, 100000, 0);
+        it.row(3, (byte) 100000, 0);
         return due;
     }
 
