@@ -88,7 +88,9 @@ public final class ReadAge {
     }
 
     public boolean copy(int from, int place, int to, int at, int many) {
-        if (!passes(first(sheets.lack(from, place, many), sheets.lack(to, at, many)))) {
+        // A place below 0 is no number that can be here, unlike in write() and read().
+        int found = place < 0 || at < 0 ? WRONG : FINE;
+        if (!passes(first(found, first(sheets.lack(from, place, many), sheets.lack(to, at, many))))) {
             return false;
         }
         sheets.move(from, place, to, at, many);

@@ -148,10 +148,12 @@ public final class Model {
         return call(0, () -> {
             ask(from, 0, 3);
             ask(to, 0, 3);
-            ask(many, 0, Integer.MAX_VALUE);
+            for (int told : new int[] {place, at, many}) {
+                ask(told, 0, Integer.MAX_VALUE);
+            }
             ask(sheets[from] != null && sheets[to] != null, 2);
-            ask(place >= 0 && (long) place + many <= sheets[from].length, 3);
-            ask(at >= 0 && (long) at + many <= sheets[to].length, 3);
+            ask((long) place + many <= sheets[from].length, 3);
+            ask((long) at + many <= sheets[to].length, 3);
             long[] held = sheets[from].clone();
             for (int i = 0; i < many; i++) {
                 sheets[to][at + i] = cut(to, held[place + i]);

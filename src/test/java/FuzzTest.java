@@ -241,7 +241,7 @@ public final class FuzzTest {
 
     private Due play() {
         if (!chances) {
-            
+
             int n = 2 + random.nextInt(4);
             int w = 1 + random.nextInt(Math.min(n, 3));
             int r = 1 + random.nextInt(Math.min(n, 3));

@@ -125,9 +125,8 @@ public final class SheetsTest {
         it.row(0, 301, 302, 303, 302, 47);
         due.refused("one too many of the first", judge.copy(0, 3, 1, 0, 3), 3);
         due.refused("one too many of the second", judge.copy(0, 0, 1, 2, 3), 3);
-        due.refused("a place below 0", judge.copy(0, -1, 1, 0, 1), 3);
-        due.refused("a place below 0", judge.copy(0, 0, 1, -1, 1), 3);
         due.refused("a place beyond", judge.copy(0, 6, 1, 0, 0), 3);
+        due.refused("a place beyond", judge.copy(0, 0, 1, 5, 0), 3);
         due.refused("far too many", judge.copy(0, 1, 1, 1, Integer.MAX_VALUE), 3);
         due.refused("far beyond", judge.copy(0, Integer.MAX_VALUE, 1, 1, 1), 3);
         due.refused("below 0", judge.copy(0, 0, 1, 0, -1), 1);
@@ -136,6 +135,16 @@ public final class SheetsTest {
         due.refused("MISSING", judge.copy(1, 0, 2, 0, 1), 2);
         due.refused("MISSING ahead of a place", judge.copy(1, 99, 2, 0, 1), 2);
         due.refused("below 0 ahead of MISSING", judge.copy(2, 0, 1, 0, -1), 1);
+        for (int below : new int[] {-1, -6, Integer.MIN_VALUE}) {
+            due.refused("from a place below 0", judge.copy(0, below, 1, 0, 1), 1);
+            due.refused("to a place below 0", judge.copy(0, 0, 1, below, 1), 1);
+            due.refused("none from a place below 0", judge.copy(0, below, 1, 0, 0), 1);
+            due.refused("none to a place below 0", judge.copy(0, 0, 1, below, 0), 1);
+            due.refused("from below 0 ahead of MISSING", judge.copy(0, below, 2, 0, 1), 1);
+            due.refused("to below 0 ahead of MISSING", judge.copy(2, 0, 1, below, 1), 1);
+            due.refused("from below 0 ahead of a place beyond", judge.copy(0, below, 1, 99, 1), 1);
+            due.refused("to below 0 ahead of a place beyond", judge.copy(0, 99, 1, below, 1), 1);
+        }
         for (int beyond : BEYOND) {
             due.refused("from " + beyond, judge.copy(beyond, 0, 2, 0, 1), 1);
             due.refused("to " + beyond, judge.copy(2, 0, beyond, 0, 1), 1);
