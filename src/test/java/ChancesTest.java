@@ -5,27 +5,15 @@ import java.util.Random;
 
 /** Promises 3, 4 and 11 to 16: by hand, and by looking at every outcome one by one as the Terms tell it. */
 public final class ChancesTest {
-    private final ReadAge judge = new ReadAge();
-    private final Due due = new Due(judge);
-
-    /** Weights for a TABLE, through SHEET 3. */
-    private void table(int table, int... weights) {
-        judge.sheet(3, 3, weights.length);
-        for (int i = 0; i < weights.length; i++) {
-            judge.write(3, i, weights[i]);
-        }
-        due.fine("table " + table, judge.table(table, 3, weights.length));
-    }
-
-    private void eightOnes() {
+    private static void eightOnes(Bench it) {
         for (int i = 0; i < 4; i++) {
-            table(i, 1, 1, 1, 1, 1, 1, 1, 1);
+            it.table(i, 1, 1, 1, 1, 1, 1, 1, 1);
         }
     }
 
     private static Due fresh() {
-        ChancesTest it = new ChancesTest();
-        Due due = it.due.in("promises 1, 3, 4");
+        Bench it = new Bench("promises 1, 3, 4");
+        Due due = it.due;
         ReadAge judge = it.judge;
         due.is("top()", judge.top(), 0);
         due.is("bottom()", judge.bottom(), 1);
@@ -53,8 +41,8 @@ public final class ChancesTest {
     }
 
     private static Due numbers() {
-        ChancesTest it = new ChancesTest();
-        Due due = it.due.in("promise 11");
+        Bench it = new Bench("promise 11");
+        Due due = it.due;
         ReadAge judge = it.judge;
         // N 3, w 2, r 2 at first.
         it.table(0, 1, 1);
@@ -80,8 +68,8 @@ public final class ChancesTest {
     }
 
     private static Due gap() {
-        ChancesTest it = new ChancesTest();
-        Due due = it.due.in("promise 12");
+        Bench it = new Bench("promise 12");
+        Due due = it.due;
         ReadAge judge = it.judge;
         judge.numbers(2, 1, 1);
         it.table(0, 1, 1, 1);
@@ -107,8 +95,8 @@ public final class ChancesTest {
     }
 
     private static Due table() {
-        ChancesTest it = new ChancesTest();
-        Due due = it.due.in("promise 13");
+        Bench it = new Bench("promise 13");
+        Due due = it.due;
         ReadAge judge = it.judge;
         judge.numbers(1, 1, 1);
         due.refused("table(-1, 0, 1)", judge.table(-1, 0, 1), 1);
@@ -161,8 +149,8 @@ public final class ChancesTest {
     }
 
     private static Due takes() {
-        ChancesTest it = new ChancesTest();
-        Due due = it.due.in("promise 14");
+        Bench it = new Bench("promise 14");
+        Due due = it.due;
         ReadAge judge = it.judge;
         for (boolean write : new boolean[] {true, false}) {
             due.refused("takes(.., -1)", judge.takes(write, -1), 1);
@@ -170,7 +158,7 @@ public final class ChancesTest {
             due.refused("takes(.., MIN)", judge.takes(write, Integer.MIN_VALUE), 1);
             due.refused("takes(.., MAX)", judge.takes(write, Integer.MAX_VALUE), 1);
         }
-        it.eightOnes();
+        eightOnes(it);
         judge.numbers(5, 5, 1);
         // All five at 14: 1 of 64 each; the greatest product that takes() can have, never GREAT.
         due.fraction("takes(true, 14)", judge.takes(true, 14), (1L << 30) - power(63, 5), 1L << 30);
@@ -189,8 +177,8 @@ public final class ChancesTest {
     }
 
     private static Due odds() {
-        ChancesTest it = new ChancesTest();
-        Due due = it.due.in("promise 15");
+        Bench it = new Bench("promise 15");
+        Due due = it.due;
         ReadAge judge = it.judge;
         int[][] wrong = {{-1, 0, 0}, {101, 0, 0}, {0, -1, 0}, {0, 4, 0}, {0, 0, 1}, {0, 0, -1}, {0, 3, 4},
             {Integer.MIN_VALUE, 0, 0}, {Integer.MAX_VALUE, 0, 0}, {0, Integer.MAX_VALUE, 0},
@@ -251,14 +239,14 @@ public final class ChancesTest {
 
     /** The product's edge itself: 2 to the power 62 is GREAT, the next lesser products are not. */
     private static Due great() {
-        ChancesTest it = new ChancesTest();
-        Due due = it.due.in("GREAT");
+        Bench it = new Bench("GREAT");
+        Due due = it.due;
         ReadAge judge = it.judge;
         // The first weights are 1: 8 ^ 4 and 8 ^ 3 alone, to the power 5, are below.
         judge.numbers(5, 1, 1);
         it.table(0, 8);
         due.fraction("2 to the 60", judge.odds(0, 3, 3), 0, 1);
-        ChancesTest another = new ChancesTest();
+        Bench another = new Bench("GREAT");
         for (int table = 1; table < 4; table++) {
             another.table(table, 8);
         }
@@ -303,8 +291,8 @@ public final class ChancesTest {
     }
 
     private static Due choose() {
-        ChancesTest it = new ChancesTest();
-        Due due = it.due.in("promise 16");
+        Bench it = new Bench("promise 16");
+        Due due = it.due;
         ReadAge judge = it.judge;
         int[][] wrong = {
             {0, 0, 0, 0, 0, 1, 0, 0, 0}, {6, 0, 0, 0, 0, 1, 0, 0, 0}, {5, -1, 0, 0, 0, 1, 0, 0, 0},
@@ -333,7 +321,7 @@ public final class ChancesTest {
         due.fine("of(3, 0)", judge.of(3, 0), 0);
         due.refused("of(4, 0)", judge.of(4, 0), 1);
         // GREAT of one N is enough, even if a lesser one would be chosen.
-        it.eightOnes();
+        eightOnes(it);
         due.refused("choose GREAT", judge.choose(5, 0, 1, 0, 1, 1, 0, 0, 0), 9);
         due.refused("1 ahead of 9", judge.choose(5, 0, 1, 0, 2, 1, 0, 0, 0), 1);
         due.fine("choose of 4", judge.choose(4, 0, 1, 0, 1, 1, 0, 0, 0), 111);
@@ -434,8 +422,8 @@ public final class ChancesTest {
     }
 
     private static Due compare(Random random, int n, int k) {
-        ChancesTest it = new ChancesTest();
-        Due due = it.due.in("outcomes of N " + n + ", K " + k);
+        Bench it = new Bench("outcomes of N " + n + ", K " + k);
+        Due due = it.due;
         Outcomes outcomes = new Outcomes();
         outcomes.n = n;
         outcomes.w = 1 + random.nextInt(random.nextBoolean() ? n : Math.max(1, n - 1));
@@ -476,7 +464,7 @@ public final class ChancesTest {
         Field field = ReadAge.class.getDeclaredField("odds");
         field.setAccessible(true);
         for (int round = 0; round < 600; round++) {
-            ChancesTest it = new ChancesTest();
+            Bench it = new Bench("the search");
             Object odds = field.get(it.judge);
             Method ask = odds.getClass().getDeclaredMethod("ask", int.class, int.class);
             Method cheapest = odds.getClass().getDeclaredMethod("cheapest", int.class, int.class, int.class,
@@ -553,11 +541,6 @@ public final class ChancesTest {
                     (Boolean) isAtMost.invoke(null, ways, all, top, bottom), want);
         }
         return due;
-    }
-
-    private void fraction(String call, int got, long ways, long all) {
-        long divisor = BigInteger.valueOf(ways).gcd(BigInteger.valueOf(all)).longValueExact();
-        due.fraction(call, got, ways / divisor, all / divisor);
     }
 
     public static void main(String[] args) throws ReflectiveOperationException {

@@ -3,67 +3,8 @@ public final class RunTest {
     private static final int MIN = Integer.MIN_VALUE;
     private static final int MAX = Integer.MAX_VALUE;
 
-    private final ReadAge judge = new ReadAge();
-    private final Due due = new Due(judge);
-
-    private RunTest(String what) {
-        due.in(what);
-    }
-
-    /** A RUN on N COPIES. */
-    private RunTest run(int n, int w, int r) {
-        judge.numbers(n, w, r);
-        due.fine("begin", judge.begin());
-        return this;
-    }
-
-    private void delays(int sheet, int... delays) {
-        judge.sheet(sheet, 1, delays.length);
-        for (int i = 0; i < delays.length; i++) {
-            judge.write(sheet, i, delays[i]);
-        }
-    }
-
-    private void write(int number, int... delays) {
-        delays(0, delays);
-        due.fine("writes", judge.writes(0), number);
-    }
-
-    private void read(int number, int reader, int... delays) {
-        delays(1, delays);
-        due.fine("reads", judge.reads(1, reader), number);
-    }
-
-    private void go(int ticks, int tick) {
-        due.fine("go " + ticks, judge.go(ticks), tick);
-    }
-
-    private void versions(int... versions) {
-        for (int copy = 0; copy < versions.length; copy++) {
-            due.fine("of(" + copy + ", 0)", judge.of(copy, 0), versions[copy]);
-        }
-    }
-
-    private void kept(int... kept) {
-        for (int copy = 0; copy < kept.length; copy++) {
-            due.fine("of(" + copy + ", 2)", judge.of(copy, 2), kept[copy]);
-        }
-    }
-
-    private void got(int read, int... got) {
-        for (int what = 0; what < got.length; what++) {
-            due.fine("got(" + read + ", " + what + ")", judge.got(read, what), got[what]);
-        }
-    }
-
-    private void tells(int... told) {
-        for (int what = 0; what < told.length; what++) {
-            due.fine("tell(" + what + ")", judge.tell(what), told[what]);
-        }
-    }
-
     private static Due withoutRun() {
-        RunTest it = new RunTest("without a RUN");
+        Bench it = new Bench("without a RUN");
         Due due = it.due;
         ReadAge judge = it.judge;
         due.refused("mending", judge.mending(true), 4);
@@ -110,7 +51,7 @@ public final class RunTest {
     }
 
     private static Due begin() {
-        RunTest it = new RunTest("promise 17").run(4, 1, 1);
+        Bench it = new Bench("promise 17").run(4, 1, 1);
         Due due = it.due;
         ReadAge judge = it.judge;
         due.fine("of(3, 0)", judge.of(3, 0), 0);
@@ -168,7 +109,7 @@ public final class RunTest {
 
     /** Nothing of an older RUN is counted in the next one. */
     private static Due anew() {
-        RunTest it = new RunTest("a RUN anew").run(2, 1, 1);
+        Bench it = new Bench("a RUN anew").run(2, 1, 1);
         Due due = it.due;
         ReadAge judge = it.judge;
         it.write(1, 0, 90, 0, 0);
@@ -214,7 +155,7 @@ public final class RunTest {
     }
 
     private static Due mending() {
-        RunTest it = new RunTest("promise 18").run(4, 1, 3);
+        Bench it = new Bench("promise 18").run(4, 1, 3);
         Due due = it.due;
         ReadAge judge = it.judge;
         due.fine("mending", judge.mending(true));
@@ -247,7 +188,7 @@ public final class RunTest {
 
     /** Mending letters do as a WRITE's, by a COPY that is DOWN, and carry what the answers had. */
     private static Due mendingLetters() {
-        RunTest it = new RunTest("mending letters").run(3, 1, 2);
+        Bench it = new Bench("mending letters").run(3, 1, 2);
         Due due = it.due;
         ReadAge judge = it.judge;
         judge.mending(true);
@@ -287,7 +228,7 @@ public final class RunTest {
     }
 
     private static Due keep() {
-        RunTest it = new RunTest("promise 19").run(2, 1, 1);
+        Bench it = new Bench("promise 19").run(2, 1, 1);
         Due due = it.due;
         ReadAge judge = it.judge;
         for (int beyond : new int[] {-1, 4, MIN, MAX}) {
@@ -331,7 +272,7 @@ public final class RunTest {
     }
 
     private static Due writes() {
-        RunTest it = new RunTest("promise 20");
+        Bench it = new Bench("promise 20");
         Due due = it.due;
         ReadAge judge = it.judge;
         judge.begin();
@@ -388,7 +329,7 @@ public final class RunTest {
 
     /** The greater VERSION stays, whatever the order in which letters come. */
     private static Due order() {
-        RunTest it = new RunTest("the order of LETTERS").run(2, 2, 1);
+        Bench it = new Bench("the order of LETTERS").run(2, 2, 1);
         Due due = it.due;
         ReadAge judge = it.judge;
         it.write(1, 5, 3, 0, 0);
@@ -434,7 +375,7 @@ public final class RunTest {
     }
 
     private static Due reads() {
-        RunTest it = new RunTest("promise 21");
+        Bench it = new Bench("promise 21");
         Due due = it.due;
         ReadAge judge = it.judge;
         judge.begin();
@@ -468,7 +409,7 @@ public final class RunTest {
 
     /** The first r answers alone count, and a COPY answers with what it has as the letter comes. */
     private static Due answers() {
-        RunTest it = new RunTest("answers").run(3, 1, 2);
+        Bench it = new Bench("answers").run(3, 1, 2);
         Due due = it.due;
         it.write(1, 0, 2, 9, 0, 0, 0);
         // COPY 1 answers at 1 with 0, long ahead of its word; COPY 2 at 3; that of COPY 0 comes too late.
@@ -496,7 +437,7 @@ public final class RunTest {
     }
 
     private static Due go() {
-        RunTest it = new RunTest("promise 22").run(1, 1, 1);
+        Bench it = new Bench("promise 22").run(1, 1, 1);
         Due due = it.due;
         ReadAge judge = it.judge;
         for (int beyond : new int[] {-1, 10001, MIN, MAX}) {
@@ -516,7 +457,7 @@ public final class RunTest {
     }
 
     private static Due downAndUp() {
-        RunTest it = new RunTest("promises 23 and 24").run(4, 1, 1);
+        Bench it = new Bench("promises 23 and 24").run(4, 1, 1);
         Due due = it.due;
         ReadAge judge = it.judge;
         for (int beyond : new int[] {-1, 4, 5, MIN, MAX}) {
@@ -560,7 +501,7 @@ public final class RunTest {
     }
 
     private static Due handed() {
-        RunTest it = new RunTest("HANDED ones").run(3, 1, 1);
+        Bench it = new Bench("HANDED ones").run(3, 1, 1);
         Due due = it.due;
         ReadAge judge = it.judge;
         // Two keepers give one COPY what they keep for it; the greater VERSION counts.
@@ -645,7 +586,7 @@ public final class RunTest {
 
     /** As many COPIES as can be. */
     private static Due five() {
-        RunTest it = new RunTest("five COPIES").run(5, 1, 5);
+        Bench it = new Bench("five COPIES").run(5, 1, 5);
         Due due = it.due;
         ReadAge judge = it.judge;
         judge.mending(true);
@@ -692,7 +633,7 @@ public final class RunTest {
     }
 
     private static Due sweep() {
-        RunTest it = new RunTest("promise 25").run(3, 1, 1);
+        Bench it = new Bench("promise 25").run(3, 1, 1);
         Due due = it.due;
         ReadAge judge = it.judge;
         for (int beyond : new int[] {-1, 3, MIN, MAX}) {
@@ -717,7 +658,7 @@ public final class RunTest {
     }
 
     private static Due looks() {
-        RunTest it = new RunTest("promises 26 to 29").run(3, 2, 2);
+        Bench it = new Bench("promises 26 to 29").run(3, 2, 2);
         Due due = it.due;
         ReadAge judge = it.judge;
         for (int beyond : new int[] {-1, 3, 4, MIN, MAX}) {

@@ -2,12 +2,9 @@
 public final class SheetsTest {
     private static final int[] BEYOND = {-1, 4, Integer.MIN_VALUE, Integer.MAX_VALUE};
 
-    private final ReadAge judge = new ReadAge();
-    private final Due due = new Due(judge);
-
     private static Due fresh() {
-        SheetsTest it = new SheetsTest();
-        Due due = it.due.in("promises 1 and 2");
+        Bench it = new Bench("promises 1 and 2");
+        Due due = it.due;
         ReadAge judge = it.judge;
         due.is("NONE", ReadAge.NONE, -1);
         due.is("status()", judge.status(), 0);
@@ -32,8 +29,8 @@ public final class SheetsTest {
     }
 
     private static Due sheet() {
-        SheetsTest it = new SheetsTest();
-        Due due = it.due.in("promise 5");
+        Bench it = new Bench("promise 5");
+        Due due = it.due;
         ReadAge judge = it.judge;
         for (int beyond : BEYOND) {
             due.refused("sheet " + beyond, judge.sheet(beyond, 0, 1), 1);
@@ -70,8 +67,8 @@ public final class SheetsTest {
     }
 
     private static Due writeAndRead() {
-        SheetsTest it = new SheetsTest();
-        Due due = it.due.in("promises 6 and 7");
+        Bench it = new Bench("promises 6 and 7");
+        Due due = it.due;
         ReadAge judge = it.judge;
         long[] values = {0, 1, -1, 127, 128, 255, 256, 300, -129, 32767, 32768, 65535, -32769, 1L << 31,
             (1L << 31) - 1, 1L << 32, (1L << 40) + 77, Long.MAX_VALUE, Long.MIN_VALUE};
@@ -102,8 +99,8 @@ public final class SheetsTest {
     }
 
     private static Due copy() {
-        SheetsTest it = new SheetsTest();
-        Due due = it.due.in("promise 8");
+        Bench it = new Bench("promise 8");
+        Due due = it.due;
         ReadAge judge = it.judge;
         judge.sheet(0, 3, 5);
         judge.sheet(1, 0, 4);
@@ -166,15 +163,9 @@ public final class SheetsTest {
         return due;
     }
 
-    private void row(int sheet, long... values) {
-        for (int place = 0; place < values.length; place++) {
-            due.fine("read " + sheet + " " + place, judge.read(sheet, place), values[place]);
-        }
-    }
-
     private static Due dropAndNone() {
-        SheetsTest it = new SheetsTest();
-        Due due = it.due.in("promises 9 and 10");
+        Bench it = new Bench("promises 9 and 10");
+        Due due = it.due;
         ReadAge judge = it.judge;
         for (int beyond : BEYOND) {
             due.refused("drop " + beyond, judge.drop(beyond), 1);
