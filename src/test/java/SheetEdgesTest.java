@@ -411,6 +411,20 @@ public final class SheetEdgesTest {
         return it.due;
     }
 
+    private static Due lastOfManyCalls() {
+        Bench it = new Bench("What it is: an object is used for at most 512 calls: the last ones answer as the first");
+        it.run(1, 1, 1);
+        it.sheet(0, 0, 3, 4);
+        // Up to here 10 calls: each of those of Bench is one, and one more for its STATUS.
+        for (int call = 10; call < 506; call++) {
+            it.due.is("call " + call, it.judge.go(1), call - 9);
+        }
+        it.due.fine("writes", it.judge.writes(0), 1);
+        it.due.fine("go", it.judge.go(7), 503);
+        it.due.fine("done", it.judge.done(1), 503);
+        return it.due;
+    }
+
     public static void main(String[] args) {
         Due.end(noRunAtFirst(), fractionAtFirst(), statusAtFirst(), missingAtFirst(), statusOfTheLatest(),
                 fractionOfTheLatest(), fractionOfRefused(), noCommonDivisor(),
@@ -418,6 +432,6 @@ public final class SheetEdgesTest {
                 wrapsAround(0, 8), wrapsAround(1, 16), wrapsAround(2, 32), longNumbers(), placeItHasNot(),
                 sheetItHasNot(), readAndWriteInOrder(), noneFromMinusOne(),
                 copyBelow(), copySheets(), copyMissing(), copyBeyond(), copyInOrder(), copyOfNone(), copyOfAll(),
-                copyOverItself(), copyCuts(), drops(), dropBeyond(), dropLeavesTables(), actThatIsNone());
+                copyOverItself(), copyCuts(), drops(), dropBeyond(), dropLeavesTables(), actThatIsNone(), lastOfManyCalls());
     }
 }
