@@ -1114,6 +1114,9 @@ public final class ReadAge {
                 case Post.ANSWER:
                     if (reads.hear(number, copy, extra, r)) {
                         finish(number);
+                        if (mends) {
+                            mend(number);
+                        }
                     }
                     break;
                 default:
@@ -1130,9 +1133,6 @@ public final class ReadAge {
             if (reads.missed[read] > 0) {
                 misses++;
             }
-            if (mends) {
-                mend(read, version);
-            }
             if (keeps[reader] && version < seen[reader]) {
                 raises++;
                 version = seen[reader];
@@ -1141,10 +1141,11 @@ public final class ReadAge {
             reads.told[read] = version;
         }
 
-        private void mend(int read, int version) {
+        // What the answers had is sent, not what a RAISE tells: it is the READ's own VERSION.
+        private void mend(int read) {
             for (int copy = 0; copy < copies.many; copy++) {
                 if (reads.answeredLesser(read, copy)) {
-                    post.send(tick + 1, Post.MEND, version, copy, 0);
+                    post.send(tick + 1, Post.MEND, reads.greatest[read], copy, 0);
                 }
             }
         }
